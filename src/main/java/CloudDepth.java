@@ -29,7 +29,6 @@ public final class CloudDepth {
     private final Cloud trial;
     private final Hulls hulls;
     private final Depths depths;
-    private final Depths trialDepths;
     private final Cuts cuts;
     private final Lines lines;
     private final Fits fits;
@@ -47,7 +46,6 @@ public final class CloudDepth {
         trial = new Cloud();
         hulls = new Hulls();
         depths = new Depths();
-        trialDepths = new Depths();
         cuts = new Cuts();
         lines = new Lines();
         fits = new Fits();
@@ -388,8 +386,7 @@ public final class CloudDepth {
             return hulls.layerCount;
         }
         if (what == 1) {
-            trialDepths.survey(trial);
-            return trialDepths.greatest;
+            return depths.greatestOf(trial);
         }
         return Integer.bitCount(Hulls.cornersOf(trial, trial.everyone()));
     }
@@ -1217,6 +1214,11 @@ public final class CloudDepth {
         int mostY;
 
         int depthAt(Cloud cloud, int x, int y) {
+            return depthOver(cloud, x, y, 0);
+        }
+
+        /** The DEPTH of a place; if it is not above a floor, only some number that isn't either. */
+        private int depthOver(Cloud cloud, int x, int y, int floor) {
             int here = 0;
             for (int p = 0; p < cloud.size; p++) {
                 dx[p] = cloud.xs[p] - x;
@@ -1225,17 +1227,18 @@ public final class CloudDepth {
                     here++;
                 }
             }
-            int least = cloud.size - here;
-            for (int p = 0; p < cloud.size && least > 0; p++) {
+            int least = cloud.size;
+            for (int p = 0; p < cloud.size && least > floor; p++) {
                 if (dx[p] != 0 || dy[p] != 0) {
-                    least = Math.min(least, fewestAbout(p, cloud.size));
+                    least = Math.min(least, here + fewestAbout(p, cloud.size));
                 }
             }
-            return here + least;
+            return least;
         }
 
         // The rim through the place and a POINT, turned by a little, loses those on it that are
         // on the one side of the place, or those on the other one, as it is turned.
+        // POINTS at the place itself are not counted here.
         private int fewestAbout(int p, int size) {
             int left = 0;
             int right = 0;
@@ -1277,6 +1280,17 @@ public final class CloudDepth {
                     }
                 }
             }
+        }
+
+        /** The greatest DEPTH in the GRID, without a survey. */
+        int greatestOf(Cloud cloud) {
+            int found = 0;
+            for (int y = -cloud.grid; y <= cloud.grid; y++) {
+                for (int x = -cloud.grid; x <= cloud.grid; x++) {
+                    found = Math.max(found, depthOver(cloud, x, y, found));
+                }
+            }
+            return found;
         }
 
         private void noteDepth(int value, int x, int y) {
