@@ -156,6 +156,9 @@ public final class PromiseTest {
     private static void findsSyntax() {
         promise = 5;
         due(1, fault("x"));
+        due(1, fault("xoint a 1 1;"));
+        due(1, fault("frid 1;"));
+        due(0, fault("point xoint 1 1;point frid 2 2;"));
         due(1, fault("point a 1 1;x") - 1200);
         due(1, fault("point") - 500);
         due(1, fault("point a 1 1 ") - 1200);
@@ -252,6 +255,12 @@ public final class PromiseTest {
         due(0, x.count(9));
         due(false, x.undo());
         due(false, x.restore(1));
+        for (int slot = 0; slot < 3; slot++) x.hold(slot);
+        due(3, x.count(9));
+        due(0, x.read());
+        due(0, x.count(9));
+        due(0, x.count(0));
+        for (int slot = 0; slot < 3; slot++) due(false, x.restore(slot));
     }
 
     private static void handWork() {
@@ -656,6 +665,12 @@ public final class PromiseTest {
         due(21, x.best(3));
         x.move(0, 0, 5);
         due(5, x.best(2));
+        x.move(0, 0, 50);
+        due(1, x.best(0));
+        due(50, x.best(2));
+        x.move(0, 0, -50);
+        due(-50, x.best(2));
+        due(21, x.best(3));
     }
 
     private static void halvingBoth() {
@@ -742,6 +757,9 @@ public final class PromiseTest {
         due(4, x.count(0));
         due(2, x.deepest(0));
         due(0, x.count(8));
+        due(1, new CloudDepth().fresh(10, 10, 1));
+        due(1, new CloudDepth().fresh(-10, -10, 1));
+        due(0, new CloudDepth().fresh(11, 0, 1));
         x = of(pointLines(11));
         due(1, x.fresh(0, 0, 0));
         x.add(0, 0);
