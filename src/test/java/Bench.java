@@ -145,6 +145,56 @@ class Bench {
         return state.append(" tape ").append(x.count(7)).append(" undo ").append(x.count(8)).append(" slots ").append(x.count(9)).toString();
     }
 
+    /** Answers about all POINTS at once, so that one that is left from an earlier cloud shows. */
+    static String answersOf(CloudDepth x) {
+        StringBuilder text = new StringBuilder();
+        for (int what = 2; what <= 6; what++) text.append(x.count(what)).append(' ');
+        for (int what = 10; what <= 14; what++) text.append(x.count(what)).append(' ');
+        for (int i = -1; i <= 12; i++) text.append(x.corner(i)).append(',').append(x.layer(i)).append(',').append(x.cutOff(i)).append(' ');
+        for (int what = 0; what <= 3; what++) text.append(x.deepest(what)).append(',').append(x.best(what)).append(' ');
+        for (int what = 0; what <= 4; what++) text.append(x.region(1, what)).append(',').append(x.region(2, what)).append(' ');
+        for (int i = 0; i < 12; i++) text.append(x.bends(i)).append(',').append(x.crossing(i, 0)).append(',').append(x.halving(i)).append(' ');
+        return text.append(x.splits()).append(' ').append(x.fit(1, 0)).append(' ').append(x.keeping(0)).toString();
+    }
+
+    /** Whether an object answers as a new one with its POINTS does. */
+    static void dueAsNew(CloudDepth x) {
+        int[] xy = new int[2 * x.count(0)];
+        for (int i = 0; i < xy.length; i++) xy[i] = x.point(i / 2, i % 2);
+        due(answersOf(inGrid(x.count(1), xy)), answersOf(x));
+    }
+
+    /** All orders of some numbers. */
+    static List<int[]> ordersOf(int many) {
+        List<int[]> orders = new ArrayList<>();
+        extend(new int[many], 0, orders);
+        return orders;
+    }
+
+    private static void extend(int[] order, int at, List<int[]> orders) {
+        if (at == order.length) {
+            orders.add(order.clone());
+            return;
+        }
+        for (int next = 0; next < order.length; next++) {
+            boolean taken = false;
+            for (int i = 0; i < at; i++) taken |= order[i] == next;
+            if (taken) continue;
+            order[at] = next;
+            extend(order, at + 1, orders);
+        }
+    }
+
+    /** The same POINTS in another order. */
+    static int[] inOrder(int[] order, int... xy) {
+        int[] mixed = new int[xy.length];
+        for (int i = 0; i < order.length; i++) {
+            mixed[2 * i] = xy[2 * order[i]];
+            mixed[2 * i + 1] = xy[2 * order[i] + 1];
+        }
+        return mixed;
+    }
+
     static String placesOf(CloudDepth x) {
         StringBuilder places = new StringBuilder();
         for (int p = 0; p < x.count(0); p++) places.append('(').append(x.point(p, 0)).append(' ').append(x.point(p, 1)).append(')');

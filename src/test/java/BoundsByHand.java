@@ -86,6 +86,17 @@ final class BoundsByHand extends Bench {
         due("(1 1)", placesOf(x));
     }
 
+    // Behind it all answers are those of the POINTS that there are.
+    static void promise06AddAnswersAnew() {
+        CloudDepth x = new CloudDepth();
+        dueAsNew(x);
+        x.add(1, 1);
+        dueAsNew(x);
+        x.add(-4, 2);
+        x.add(3, -5);
+        dueAsNew(x);
+    }
+
     // ---- promise 7 ----
 
     // "false: no such one"
@@ -119,6 +130,16 @@ final class BoundsByHand extends Bench {
         due(true, x.goes(0));
         due(11, x.point(10, 0));
         due(NO, x.point(11, 0));
+    }
+
+    static void promise07GoesAnswersAnew() {
+        CloudDepth x = with(join(SQUARE, 1, 0));
+        answersOf(x);
+        x.goes(1);
+        dueAsNew(x);
+        x.add(7, 7);
+        x.goes(0);
+        dueAsNew(x);
     }
 
     private static CloudDepth without(int p) {
@@ -179,6 +200,16 @@ final class BoundsByHand extends Bench {
         due("(2 1)(1 1)(2 2)", placesOf(x));
     }
 
+    static void promise08MoveAnswersAnew() {
+        CloudDepth x = with(join(SQUARE, 1, 0));
+        answersOf(x);
+        x.move(4, 0, 0);
+        dueAsNew(x);
+        x.add(7, 7);
+        x.move(1, 9, -9);
+        dueAsNew(x);
+    }
+
     static void promise08MoveThatIsRefusedIsNotUndone() {
         CloudDepth x = with(1, 1, 2, 2);
         x.move(0, 5, 5);
@@ -234,6 +265,15 @@ final class BoundsByHand extends Bench {
         due(true, x.undo());
         due("(0 0)", placesOf(x));
         due(2, x.count(8));
+    }
+
+    static void promise09TurnAnswersAnew() {
+        CloudDepth x = with(0, 0, 5, 1, 2, 7, 1, 1);
+        answersOf(x);
+        x.turn(false);
+        dueAsNew(x);
+        x.turn(true);
+        dueAsNew(x);
     }
 
     static void promise09TurnLeavesTheGridAndSlots() {
@@ -298,6 +338,21 @@ final class BoundsByHand extends Bench {
         }
         due(before, placesOf(x));
         due(false, x.undo());
+    }
+
+    static void promise10UndoAnswersAnew() {
+        CloudDepth x = with(1, 1);
+        answersOf(x);
+        x.undo();
+        dueAsNew(x);
+        x = with(join(SQUARE, 1, 0));
+        answersOf(x);
+        x.undo();
+        dueAsNew(x);
+        x.goes(0);
+        answersOf(x);
+        x.undo();
+        dueAsNew(x);
     }
 
     // "(the last 40 can be)"

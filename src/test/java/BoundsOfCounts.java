@@ -52,6 +52,7 @@ final class BoundsOfCounts extends Bench {
         due(1, with(0, 0, 0, 1, 1, 0).count(2));
         due(20000, with(-50, -50, 50, 50, -50, 50, 50, -50).count(2));
         due(10000, with(-50, -50, 50, 50, -50, 50).count(2));
+        due(440, with(BOWL).count(2));
         due(32, with(join(SQUARE, 0, -2, 1, 1)).count(2));
         due(36, with(join(SQUARE, 0, -3, 1, 1)).count(2));
     }
@@ -192,6 +193,15 @@ final class BoundsOfCounts extends Bench {
         due(5, with(join(SQUARE, 0, -3)).count(12));
         due(12, with(BOWL).count(12));
         due(3, with(join(row(11), 5, 5)).count(12));
+        for (int[] order : ordersOf(4)) due(3, with(inOrder(order, join(TRIANGLE, 1, 1))).count(12));
+        for (int[] order : ordersOf(4)) due(3, with(inOrder(order, join(TRIANGLE, 2, 2))).count(12));
+        for (int[] order : ordersOf(5)) due(4, with(inOrder(order, join(SQUARE, 0, -1))).count(12));
+        CloudDepth x = with(SQUARE);
+        due(4, x.count(12));
+        x.move(3, 0, -1);
+        due(3, x.count(12));
+        x.move(3, 0, -2);
+        due(3, x.count(12));
     }
 
     // "13 EMPTY ones": "no other POINT inside or on its rim"
@@ -204,6 +214,10 @@ final class BoundsOfCounts extends Bench {
         due(2, with(join(TRIANGLE, 0, 2)).count(13));
         due(4, with(join(TRIANGLE, 2, -1)).count(13));
         due(2, with(join(TRIANGLE, 5, 0)).count(13));
+        for (int[] order : ordersOf(4)) {
+            due(3, with(inOrder(order, join(TRIANGLE, 2, 1))).count(13));
+            due(2, with(inOrder(order, join(TRIANGLE, 2, 2))).count(13));
+        }
         due(220, with(BOWL).count(13));
         due(0, with(row(12)).count(13));
         due(10, with(join(row(11), 5, 5)).count(13));
@@ -220,6 +234,10 @@ final class BoundsOfCounts extends Bench {
         x.move(2, 0, -1);
         due(1, x.count(14));
         due(1, with(join(SQUARE, 0, 0)).count(14));
+        for (int[] order : ordersOf(4)) {
+            due(1, with(inOrder(order, SQUARE)).count(14));
+            due(0, with(inOrder(order, -5, 0, 5, 0, 0, 0, 0, 5)).count(14));
+        }
         due(0, with(row(12)).count(14));
         due(495, with(BOWL).count(14));
     }

@@ -70,6 +70,20 @@ final class BoundsOfDepth extends Bench {
         due(3, with(join(SQUARE, 0, 0)).depth(0, 0));
     }
 
+    // A place that is beside the way of two by the least that there is: a TURN of 1.
+    static void promise20DepthBesideTheRim() {
+        CloudDepth x = with(50, 49, -49, -48, 1, -1);
+        due(1, x.depth(0, 0));
+        x.move(2, -1, 1);
+        due(0, x.depth(0, 0));
+        x = with(-50, -50, 50, 49, -50, 50);
+        due(1, x.depth(-49, -49));
+        due(0, x.depth(49, 48));
+        x.move(2, 50, -50);
+        due(0, x.depth(-49, -49));
+        due(1, x.depth(49, 48));
+    }
+
     // ---- promise 21 ----
 
     // "-100000 for others"
@@ -177,6 +191,16 @@ final class BoundsOfDepth extends Bench {
         dueRegion(with(1, -7), 1, 1, 1, -7, -7);
     }
 
+    // Each call tells its own k, whatever was asked ahead.
+    static void promise22RegionOfOneKThenAnother() {
+        CloudDepth x = with(1, 2, 3, 4, 3, 2);
+        int[][] dues = {{441, -10, 10, -10, 10}, {6, 1, 3, 2, 4}, {0, NO, NO, NO, NO}, {6, 1, 3, 2, 4}, {441, -10, 10, -10, 10}};
+        int[] ks = {0, 1, 2, 1, 0};
+        for (int i = 0; i < ks.length; i++) {
+            for (int what = 0; what <= 4; what++) due(dues[i][what], x.region(ks[i], what));
+        }
+    }
+
     private static void dueRegion(CloudDepth x, int... answers) {
         for (int what = 0; what <= 4; what++) due(answers[what], x.region(1, what));
     }
@@ -233,6 +257,18 @@ final class BoundsOfDepth extends Bench {
         x = with(0, 0, 0, 4, 4, 0);
         for (int[] at : within) due(1, x.triangles(at[0], at[1]));
         for (int[] at : out) due(0, x.triangles(at[0], at[1]));
+    }
+
+    // One step of TURN 1 within, or out of, each of the three sides.
+    static void promise23TrianglesBesideTheRim() {
+        for (int[] order : ordersOf(3)) {
+            CloudDepth x = with(inOrder(order, -50, -50, 50, 49, -50, 50));
+            due(1, x.triangles(-49, -49));
+            due(0, x.triangles(49, 48));
+            x = with(inOrder(order, -50, -50, 50, 49, 50, -50));
+            due(0, x.triangles(-49, -49));
+            due(1, x.triangles(49, 48));
+        }
     }
 
     static void promise23TrianglesOf12Points() {
@@ -301,7 +337,12 @@ final class BoundsOfDepth extends Bench {
         due(0, x.fresh(50, -50, 1));
         due(1, x.fresh(50, -50, 2));
         due(1, x.fresh(10, -10, 1));
+        due(1, x.fresh(10, 10, 1));
+        due(1, x.fresh(-10, 10, 1));
+        due(1, x.fresh(-10, -10, 1));
         due(0, x.fresh(11, -10, 1));
+        due(0, x.fresh(-11, 10, 1));
+        due(0, x.fresh(-10, 11, 1));
         due(0, x.fresh(10, -11, 1));
     }
 

@@ -245,6 +245,8 @@ final class BoundsOfLines extends Bench {
         due(0, with(-1, 1, 1, -1).fit(0, 0));
         due(1, with(-1, 1, 1, -1, 0, 0).fit(0, 0));
         due(0, with(0, 1, 1, -1).fit(0, 0));
+        due(0, with(-1, -1, 1, 1).fit(0, 0));
+        due(1, with(-1, -1, 1, 1, 0, 0).fit(0, 0));
     }
 
     // ".. or beyond all": all on one side of the line are none there.
@@ -257,6 +259,26 @@ final class BoundsOfLines extends Bench {
         due(1, x.fit(0, 0));
         x.add(1, -5);
         due(2, x.fit(0, 0));
+    }
+
+    // The POINTS' numbers are nothing to it.
+    static void promise27FitInAnyOrder() {
+        for (int[] order : ordersOf(4)) due(1, with(inOrder(order, -3, 2, -1, -1, 1, 3, 3, -2)).fit(0, 0));
+        for (int[] order : ordersOf(4)) due(1, with(inOrder(order, -3, 2, -1, -1, 1, 0, 3, -2)).fit(0, 0));
+    }
+
+    static void promise27FitOf12Points() {
+        due(12, with(row(12)).fit(0, 0));
+        due(0, with(row(12)).fit(0, 1));
+        due(1, with(BOWL).fit(0, 0));
+        due(3, with(BOWL).fit(0, 1));
+        CloudDepth column = with(3, 0, 3, 1, 3, 2, 3, 3, 3, 4, 3, 5, 3, 6, 3, 7, 3, 8, 3, 9, 3, 10, 3, 11);
+        due(1, column.fit(0, 0));
+        due(6, column.fit(0, 5));
+        due(6, column.fit(0, 6));
+        due(1, column.fit(0, 11));
+        due(0, column.fit(0, 12));
+        dueBest(with(row(12)), 12, 0, 0, 1);
     }
 
     // ---- promise 28 ----

@@ -13,6 +13,13 @@ final class BoundsOfParts extends Bench {
             due(NONE, x.four(0, 1, 2, other));
         }
         due(5, x.four(0, 1, 2, 3));
+        // Numbers that are as 0 in their last five bits.
+        for (int other : new int[] {32, -32, 64}) {
+            due(NONE, x.four(other, 1, 2, 3));
+            due(NONE, x.four(1, other, 2, 3));
+            due(NONE, x.four(1, 2, other, 3));
+            due(NONE, x.four(1, 2, 3, other));
+        }
         due(NONE, new CloudDepth().four(0, 1, 2, 3));
         due(NONE, with(TRIANGLE).four(0, 1, 2, 3));
     }

@@ -14,6 +14,11 @@ final class BoundsOfTexts extends Bench {
 
     // ---- promise 1 ----
 
+    // "public static final int NONE = -1;"
+    static void promise01CloudDepthTellsNone() {
+        due(-1, CloudDepth.NONE);
+    }
+
     // "No POINTS"
     static void promise01CloudDepthHasNoPoints() {
         CloudDepth x = new CloudDepth();
@@ -174,6 +179,27 @@ final class BoundsOfTexts extends Bench {
         due(2000, withTape(2000).back(0));
     }
 
+    // What went is not read, though it was on the tape.
+    static void promise03BackLeavesNothingBehindTheEnd() {
+        CloudDepth x = new CloudDepth();
+        tell(x, "point");
+        due(4, x.back(1));
+        due(1, x.read());
+        due(0, x.place());
+        tell(x, "grid 11111");
+        due(9, x.back(1));
+        due(1, x.read());
+        due(9, x.place());
+        tell(x, "point abcdefghi");
+        due(14, x.back(1));
+        due(1, x.read());
+        due(14, x.place());
+        tell(x, "grid 7;!");
+        due(7, x.back(1));
+        due(0, x.read());
+        due(7, x.count(1));
+    }
+
     static void promise03BackOfAnEmptyTape() {
         CloudDepth x = new CloudDepth();
         due(0, x.back(0));
@@ -301,6 +327,14 @@ final class BoundsOfTexts extends Bench {
         dueFault(1, 6, "point point 1 1;");
         dueFault(1, 6, "point grid 1 1;");
         dueGood("point poin 1 1;");
+        dueGood("point xoint 1 1;");
+        dueGood("point poinx 1 1;");
+        dueGood("point frid 1 1;");
+        dueGood("point grie 1 1;");
+        dueFault(1, 0, "xoint a 1 1;");
+        dueFault(1, 0, "poinx a 1 1;");
+        dueFault(1, 0, "frid 1;");
+        dueFault(1, 0, "grie 1;");
         dueGood("point points 1 1;");
         dueGood("point gri 1 1;");
         dueGood("point grids 1 1;");
@@ -655,6 +689,53 @@ final class BoundsOfTexts extends Bench {
         due(false, x.undo());
         for (int slot = 0; slot <= 2; slot++) due(false, x.restore(slot));
         due("grid 10 tape 0 undo 0 slots 0", stateOf(x));
+    }
+
+    // Each text is read from its own beginning: TOKENS, POINTS, a - or a word of the one ahead count for nothing.
+    static void promise04ReadBeginsAnew() {
+        CloudDepth x = new CloudDepth();
+        for (int i = 0; i < 3; i++) {
+            tell(x, "point a 1 1;point b 2 2;" + GRID_LINE.repeat(130));
+            due(0, x.read());
+        }
+        for (int i = 0; i < 2; i++) {
+            tell(x, rowLines(12));
+            due(0, x.read());
+            tell(x, rowLines(13));
+            due(2, x.read());
+        }
+        tell(x, "point a -");
+        due(1, x.read());
+        tell(x, "point a 1 -1;");
+        due(0, x.read());
+        due("(1 -1)", placesOf(x));
+        tell(x, "point");
+        due(1, x.read());
+        tell(x, "abcdefghi a 1 1;");
+        due(1, x.read());
+        due(0, x.place());
+        tell(x, "grid 1");
+        due(1, x.read());
+        tell(x, "12345");
+        due(1, x.read());
+        due(0, x.place());
+    }
+
+    // Behind a text all answers are those of its POINTS and its GRID.
+    static void promise04ReadAnswersAnew() {
+        CloudDepth x = with(BOWL);
+        dueAsNew(x);
+        due(0, x.read());
+        dueAsNew(x);
+        tell(x, "grid 3;");
+        due(0, x.read());
+        due(49, x.deepest(1));
+        tell(x, "grid 4;");
+        due(0, x.read());
+        due(81, x.deepest(1));
+        tell(x, rowLines(3));
+        due(0, x.read());
+        dueAsNew(x);
     }
 
     // ---- promise 5 ----
