@@ -17,6 +17,57 @@ final class BoundsOfCounts extends Bench {
         for (int what = 0; what <= 14; what++) due(answers[what], new CloudDepth().count(what));
     }
 
+    private static final int[] ODD = {LEAST, -100001, -10001, -1001, -201, -101, -51, -2, -1, 0, 3, 12, 32, 51, 101, 201, 1001, 4096, 10001, MOST};
+
+    private static CloudDepth busy() {
+        CloudDepth x = inGrid(2, join(SQUARE, 1, 0));
+        x.hold(1);
+        x.turn(true);
+        x.add(7, 7);
+        return x;
+    }
+
+    // Calls that only ask change nothing, whatever they are asked.
+    static void promise36CountIsLeftByCallsThatAsk() {
+        CloudDepth x = busy();
+        x.feed(1, 2, 3, 4, 5);
+        String before = stateOf(x);
+        for (int a : ODD) {
+            x.point(a, 0); x.point(0, a); x.turned(a, 0, 1, 0); x.sides(a, 1, 0); x.corner(a); x.layer(a); x.edges(a);
+            x.halving(a); x.cutOff(a); x.isCutOff(a); x.depth(a, a); x.deepest(a); x.region(a, a); x.triangles(a, a);
+        }
+        due(before, stateOf(x));
+        CloudDepth y = busy();
+        y.feed(1, 2, 3, 4, 5);
+        for (int a : ODD) {
+            y.order(a, a); y.crossing(a, a); y.bends(a); y.fit(a, a); y.best(a); y.halvingBoth(a, a);
+            y.four(a, a, a, a); y.keeping(a); y.fresh(a, a, a); y.fresh(4, 4, a); y.count(a);
+        }
+        due(before, stateOf(y));
+    }
+
+    // Nor do calls that are refused.
+    static void promise36CountIsLeftByCallsThatAreRefused() {
+        CloudDepth x = busy();
+        String before = stateOf(x);
+        for (int beyond : new int[] {LEAST, -51, 51, 4096, MOST}) {
+            due(NONE, x.add(beyond, 0));
+            due(NONE, x.add(0, beyond));
+            due(false, x.goes(beyond));
+            due(false, x.move(beyond, 30, 30));
+            due(false, x.move(0, beyond, 30));
+            due(false, x.move(0, 30, beyond));
+            due(false, x.hold(beyond));
+            due(false, x.restore(beyond));
+            due(NONE, x.back(beyond));
+        }
+        due(before, stateOf(x));
+        due(true, x.undo());
+        due(true, x.undo());
+        due(false, x.undo());
+        due("(-2 -2)(2 -2)(2 2)(-2 2)(1 0)", placesOf(x));
+    }
+
     // "0 POINTS"
     static void promise36CountOfPointsFrom0To12() {
         CloudDepth x = new CloudDepth();
@@ -196,6 +247,10 @@ final class BoundsOfCounts extends Bench {
         for (int[] order : ordersOf(4)) due(3, with(inOrder(order, join(TRIANGLE, 1, 1))).count(12));
         for (int[] order : ordersOf(4)) due(3, with(inOrder(order, join(TRIANGLE, 2, 2))).count(12));
         for (int[] order : ordersOf(5)) due(4, with(inOrder(order, join(SQUARE, 0, -1))).count(12));
+        CloudDepth bowl = with(BOWL);
+        due(12, bowl.count(12));
+        bowl.move(0, 0, 10);
+        due(11, bowl.count(12));
         CloudDepth x = with(SQUARE);
         due(4, x.count(12));
         x.move(3, 0, -1);
