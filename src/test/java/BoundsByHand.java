@@ -256,6 +256,22 @@ final class BoundsByHand extends Bench {
         due("(50 -50)(-50 50)(0 5)(3 7)", placesOf(x));
     }
 
+    static void promise09TurnOf12Points() {
+        CloudDepth x = with(BOWL);
+        due(true, x.turn(false));
+        for (int p = 0; p < 12; p++) {
+            due(-BOWL[2 * p + 1], x.point(p, 0));
+            due(BOWL[2 * p], x.point(p, 1));
+        }
+        due(true, x.turn(true));
+        for (int p = 0; p < 12; p++) {
+            due(BOWL[2 * p + 1], x.point(p, 0));
+            due(BOWL[2 * p], x.point(p, 1));
+        }
+        due(12, x.count(0));
+        due(14, x.count(8));
+    }
+
     // A turn that leaves all places as they were is a thing done, too.
     static void promise09TurnOfAPointInTheMiddle() {
         CloudDepth x = with(0, 0);

@@ -84,6 +84,18 @@ final class BoundsOfDepth extends Bench {
         due(1, x.depth(49, 48));
     }
 
+    // A place on the way of two, with a third beside that line by a TURN of 1, LEFT or RIGHT of it.
+    static void promise20DepthOnAWayWithAThirdBesideIt() {
+        for (int[] order : ordersOf(3)) {
+            due(1, with(inOrder(order, -1, -1, 3, 3, -3, -2)).depth(0, 0));
+            due(1, with(inOrder(order, -1, -1, 3, 3, -2, -3)).depth(0, 0));
+            due(1, with(inOrder(order, 1, 1, -3, -3, 3, 2)).depth(0, 0));
+            due(1, with(inOrder(order, 1, 1, -3, -3, 2, 3)).depth(0, 0));
+            due(0, with(inOrder(order, 1, 1, 3, 3, -3, -2)).depth(0, 0));
+            due(0, with(inOrder(order, 1, 1, 3, 3, -2, -3)).depth(0, 0));
+        }
+    }
+
     // ---- promise 21 ----
 
     // "-100000 for others"
