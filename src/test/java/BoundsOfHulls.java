@@ -297,6 +297,20 @@ final class BoundsOfHulls extends Bench {
         due("0 3 1", cornersOf(x));
     }
 
+    // "of as low ones the least X": wherever the two are, and whichever came first.
+    static void promise14CornerFirstOfAsLowOnes() {
+        int[] xs = {-50, -7, -1, 0, 1, 7, 50};
+        for (int y : new int[] {-50, -7, 0, 7, 49}) {
+            for (int i = 0; i < xs.length; i++) {
+                for (int j = i + 1; j < xs.length; j++) {
+                    due("0 1 2", cornersOf(with(xs[i], y, xs[j], y, 0, y + 1)));
+                    due("1 0 2", cornersOf(with(xs[j], y, xs[i], y, 0, y + 1)));
+                    due("2 1 0", cornersOf(with(0, y + 1, xs[j], y, xs[i], y)));
+                }
+            }
+        }
+    }
+
     private static String cornersOf(CloudDepth x) {
         StringBuilder text = new StringBuilder();
         int many = x.corner(NONE);

@@ -1,28 +1,17 @@
-import java.lang.reflect.Method;
-import java.util.ArrayList;
-import java.util.HashMap;
-import java.util.List;
-import java.util.Map;
 import java.util.Random;
 
 /** Long runs of calls, drawn with fixed seeds, answered by CloudDepth and by Oracle alike. */
 public final class OracleTest {
-    private static final Map<String, Method> OURS = new HashMap<>();
-    private static final Map<String, Method> ITS = new HashMap<>();
     private static final String[] CHEAP = {
         "point", "turned", "sides", "corner", "layer", "edges", "halving", "cutOff", "isCutOff", "depth", "triangles",
         "order", "crossing", "bends", "fit", "halvingBoth", "four", "keeping", "count"};
     private static final String[] DEAR = {"deepest", "region", "best", "splits", "fresh", "count"};
     private static final String[] HAND = {"add", "add", "add", "add", "goes", "move", "turn", "undo", "hold", "restore"};
 
-    private static int wrong;
     private final Random random;
-    private final CloudDepth ours = new CloudDepth();
-    private final Oracle its = new Oracle();
-    private final List<String> log = new ArrayList<>();
+    private final Twins twins = new Twins();
+    private final CloudDepth ours = twins.ours;
     private final int reach;
-    private int calls;
-    private boolean failed;
 
     private OracleTest(long seed) {
         random = new Random(seed);
@@ -32,30 +21,14 @@ public final class OracleTest {
     public static void main(String[] args) throws Exception {
         int runs = Integer.getInteger("runs", 400);
         long seed = Long.getLong("seed", 1L);
-        for (Method m : CloudDepth.class.getDeclaredMethods()) OURS.put(m.getName(), m);
-        for (Method m : Oracle.class.getDeclaredMethods()) {
-            if (java.lang.reflect.Modifier.isPublic(m.getModifiers())) ITS.put(m.getName(), m);
-        }
-        for (int i = 0; i < runs && wrong < 5; i++) new OracleTest(seed * 1000003 + i).run();
-        for (int i = 0; i < runs * 5 && wrong < 5; i++) new OracleTest(seed * 7000003 + i).readTexts();
-        System.out.println(wrong == 0 ? "all answers agree" : wrong + " runs differ");
-        if (wrong != 0) System.exit(1);
+        for (int i = 0; i < runs && Twins.wrong() < 5; i++) new OracleTest(seed * 1000003 + i).run();
+        for (int i = 0; i < runs * 5 && Twins.wrong() < 5; i++) new OracleTest(seed * 7000003 + i).readTexts();
+        for (int i = 0; i < runs / 4 && Twins.wrong() < 5; i++) new OracleTest(seed * 9000011 + i).workByHand();
+        Twins.end();
     }
 
     private int call(String name, Object... args) throws Exception {
-        calls++;
-        StringBuilder text = new StringBuilder(name).append('(');
-        for (int i = 0; i < args.length; i++) text.append(i > 0 ? ", " : "").append(args[i]);
-        Object got = OURS.get(name).invoke(ours, args);
-        Object due = ITS.get(name).invoke(its, args);
-        log.add(text.append(") = ").append(got).toString());
-        if (!got.equals(due) && !failed) {
-            failed = true;
-            wrong++;
-            System.out.println("due is " + due + " at the last of:");
-            for (String line : log) System.out.println("  " + line);
-        }
-        return got instanceof Boolean b ? b ? 1 : 0 : (Integer) got;
+        return twins.call(name, args);
     }
 
     private int near(int limit) { return random.nextInt(2 * limit + 1) - limit; }
@@ -79,20 +52,40 @@ public final class OracleTest {
     private int index(int many) { return random.nextInt(25) == 0 ? wild() : random.nextInt(Math.max(1, many) + 2) - 1; }
 
     private void run() throws Exception {
-        feedText(text());
+        twins.tell(text());
         call("read");
         call("place");
         int target = 30 + random.nextInt(60);
         int limit = random.nextInt(13);
-        while (calls < target && !failed) {
+        while (twins.calls() < target && !twins.failed()) {
             int kind = random.nextInt(20);
             if (kind < 5 || ours.count(0) < limit && kind < 10) hand(HAND[random.nextInt(HAND.length)]);
             else if (kind < 19) ask(CHEAP[random.nextInt(CHEAP.length)]);
             else ask(DEAR[random.nextInt(DEAR.length)]);
         }
-        for (int what = -1; what <= 15 && !failed; what++) call("count", what);
+        for (int what = -1; what <= 15 && !twins.failed(); what++) call("count", what);
         call("splits");
         for (int i = -1; i <= ours.count(0); i++) call("bends", i);
+    }
+
+    /** As many calls as an object is used for, so that far more is done by hand than can be undone. */
+    private void workByHand() throws Exception {
+        int undoing = 2 + random.nextInt(5);
+        while (twins.calls() < 480 && !twins.failed()) {
+            int kind = random.nextInt(60);
+            if (kind == 0) {
+                twins.tell(random.nextBoolean() ? text() : "grid 3");
+                call("read");
+            } else if (kind < 3) {
+                for (int i = 0; i < 10 * undoing; i++) call("undo");
+            } else {
+                hand(kind < 10 ? "goes" : HAND[random.nextInt(HAND.length)]);
+            }
+            for (int what = 7; what <= 9; what++) call("count", what);
+            int p = random.nextInt(13);
+            call("point", p, random.nextInt(2));
+            call("count", 2 + random.nextInt(3));
+        }
     }
 
     private void hand(String name) throws Exception {
@@ -128,20 +121,6 @@ public final class OracleTest {
         }
     }
 
-    private void feedText(String text) throws Exception {
-        String padded = text + " ".repeat((20 - text.length() % 20) % 20);
-        for (int at = 0; at < padded.length(); at += 20) {
-            Object[] words = new Object[5];
-            for (int w = 0; w < 5; w++) {
-                int word = 0;
-                for (int k = 0; k < 4; k++) word = word << 8 | padded.charAt(at + 4 * w + k) & 255;
-                words[w] = word;
-            }
-            call("feed", words);
-        }
-        call("back", padded.length() - text.length());
-    }
-
     private String text() {
         StringBuilder text = new StringBuilder();
         int lines = random.nextInt(10) == 0 ? 12 + random.nextInt(3) : random.nextInt(12);
@@ -167,7 +146,7 @@ public final class OracleTest {
         }
         if (random.nextInt(4) == 0) text.setLength(random.nextInt(text.length() + 1));
         if (text.length() > 2000) text.setLength(2000);
-        feedText(text.toString());
+        twins.tell(text.toString());
         call("add", 1, 1);
         call("hold", 1);
         call("read");
