@@ -203,6 +203,18 @@ final class BoundsOfDepth extends Bench {
         dueRegion(with(1, -7), 1, 1, 1, -7, -7);
     }
 
+    // The same, far from the middle on each side.
+    static void promise22RegionReachesFarFromTheMiddle() {
+        dueRegion(with(-5, 5, -3, 5, -4, 9), 7, -5, -3, 5, 9);
+        dueRegion(with(5, 5, 3, 5, 4, 9), 7, 3, 5, 5, 9);
+        dueRegion(with(-5, -5, -3, -5, -4, -9), 7, -5, -3, -9, -5);
+        dueRegion(with(5, -5, 3, -5, 4, -9), 7, 3, 5, -9, -5);
+        dueRegion(with(5, -5, 5, -3, 9, -4), 7, 5, 9, -5, -3);
+        dueRegion(with(-5, 5, -5, 3, -9, 4), 7, -9, -5, 3, 5);
+        dueRegion(with(5, 5, 5, 3, 9, 4), 7, 5, 9, 3, 5);
+        dueRegion(with(-5, -5, -5, -3, -9, -4), 7, -9, -5, -5, -3);
+    }
+
     // Each call tells its own k, whatever was asked ahead.
     static void promise22RegionOfOneKThenAnother() {
         CloudDepth x = with(1, 2, 3, 4, 3, 2);

@@ -100,6 +100,19 @@ final class BoundsOfHulls extends Bench {
         due(1, x.point(0, 4));
     }
 
+    // Between one of its LAYER and one of another LAYER it is a CORNER still, whichever came first.
+    static void promise11PointIsACornerInLineWithOtherLayers() {
+        int[] outer = {-10, -10, 10, -10, 10, 10, -10, 10, 0, -10, 0, 10};
+        int[] inner = {0, -4, 0, 4, 3, 0};
+        CloudDepth x = with(join(outer, inner));
+        int[] corners = {1, 1, 1, 1, 0, 0, 1, 1, 1};
+        for (int p = 0; p < 9; p++) due(corners[p], x.point(p, 4));
+        CloudDepth y = with(join(inner, outer));
+        for (int p = 0; p < 9; p++) due(corners[(p + 6) % 9], y.point(p, 4));
+        y.add(0, 1);
+        due(0, y.point(9, 4));
+    }
+
     // "5 its SHARE": places "nearer to it than to any other POINT": those as near to two are of none.
     static void promise11PointSharesNoPlaceAsNearToTwo() {
         CloudDepth x = inGrid(1, -1, 0, 1, 0);

@@ -83,6 +83,28 @@ final class BoundsOfParts extends Bench {
         for (int i = 0; i < 4; i++) due(5, with(SQUARE).four(i, (i + 1) % 4, (i + 2) % 4, (i + 3) % 4));
     }
 
+    // The same with numbers above 0, in each order; one that is not of the four changes nothing, wherever it is.
+    static void promise30FourBesideOthersInEachOrder() {
+        for (int[] order : ordersOf(5)) {
+            int[] at = new int[5];
+            for (int i = 0; i < 5; i++) at[order[i]] = i;
+            for (int[] fifth : new int[][] {{0, -2}, {0, 0}, {6, 2}, {-5, -5}, {1, 1}}) {
+                CloudDepth x = with(inOrder(order, join(SQUARE, fifth)));
+                int one = 1 << at[0] | 1 << at[2];
+                int two = 1 << at[1] | 1 << at[3];
+                due(leastBit(one) < leastBit(two) ? one : two, x.four(at[3], at[0], at[2], at[1]));
+            }
+            for (int[] fifth : new int[][] {{2, 2}, {2, 0}, {0, 7}, {3, 3}, {-1, -1}}) {
+                CloudDepth x = with(inOrder(order, join(join(TRIANGLE, 1, 1), fifth)));
+                int inner = 1 << at[3];
+                int three = 1 << at[0] | 1 << at[1] | 1 << at[2];
+                due(leastBit(inner) < leastBit(three) ? inner : three, x.four(at[0], at[1], at[2], at[3]));
+            }
+        }
+    }
+
+    private static int leastBit(int set) { return Integer.numberOfTrailingZeros(set); }
+
     // ---- promise 31 ----
 
     // "NONE: no such one"

@@ -66,6 +66,8 @@ public final class OracleTest {
         for (int what = -1; what <= 15 && !twins.failed(); what++) call("count", what);
         call("splits");
         for (int i = -1; i <= ours.count(0); i++) call("bends", i);
+        for (int p = 0; p < ours.count(0); p++) for (int what = 2; what <= 5; what++) call("point", p, what);
+        for (int what = 1; what <= 4; what++) call("region", ours.deepest(0), what);
     }
 
     /** As many calls as an object is used for, so that far more is done by hand than can be undone. */
